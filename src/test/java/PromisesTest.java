@@ -634,10 +634,45 @@ public final class PromisesTest {
         x.error(0, 0, 1, 3);
         seenIs(x, 0, 1, 1, 0);
         due("high", x.high(0), 1023);
+        x.mark(0, 2, ENDLESS_BELOW);
+        x.error(0, 0, 1, 2);
+        seenIs(x, 0, 0, 1, 1);
+        x.error(0, 0, 1, 1);
+        due("sort of the greatest alone", x.sort(0), 0);
+        due("sign", x.sign(0), 0);
         x.put(0, 0, -1, -1074);
         x.put(0, 1, 3, -1074);
         x.error(0, 0, 0, 2);
         due("sign", x.sign(0), 0);
+        x.put(0, 0, -(1L << 53) + 1, 971);
+        x.put(0, 1, -1, 0);
+        x.error(0, 0, 0, 2);
+        dueDouble("tell", x.tell(0, 0, false), -1.0);
+    }
+
+    // A row of 40 places is used whole by each call that takes places.
+    private static void promises11to16WholeRow() {
+        LongSums x = new LongSums();
+        x.row(0, DOUBLES, 40);
+        for (int place = 0; place < 40; place++) {
+            x.put(0, place, 1, place);
+        }
+        double all = 0x1p40 - 1.0;
+        x.keeper(0, SUMS);
+        x.keeper(1, PAIRS);
+        due("add", x.add(0, 0, 0, 40), 40);
+        dueDouble("tell", x.tell(0, 0, false), all);
+        due("add", x.add(0, 0, 0, -40), 40);
+        due("sign", x.sign(0), 0);
+        due("pair", x.pair(1, 0, 0, 0, 40), 40);
+        due("high", x.high(1), 78);
+        due("pair", x.pair(1, 0, 0, 0, -40), 40);
+        due("sign", x.sign(1), 0);
+        dueDouble("plain", x.plain(0, 0, 40), all);
+        due("error", x.error(0, 0, 0, 40), 40);
+        due("sign", x.sign(0), 0);
+        due("copy", x.copy(0, 0, 0, 1, 39), 39);
+        dueDouble("plain", x.plain(0, 0, 40), 0x1p39);
     }
 
     private static void promise16Plain() {
@@ -667,7 +702,16 @@ public final class PromisesTest {
         dueDouble("plain beyond and back", x.plain(0, 0, 3), 0.0);
         dueDouble("plain endless", x.plain(0, 1, 3), -INFINITE);
         dueDouble("plain of -0.0", x.plain(0, 3, 1), 0.0);
-        x.mark(0, 0, NO_NUMBER);
+        x.put(0, 3, -(1L << 53) + 1, 971);
+        x.copy(0, 3, 0, 2, 1);
+        dueDouble("plain endless less the greatest", x.plain(0, 0, 4), INFINITE);
+        x.copy(0, 3, 0, 0, 1);
+        x.copy(0, 3, 0, 1, 1);
+        x.mark(0, 2, GREATEST);
+        dueDouble("plain endless below and the greatest", x.plain(0, 0, 3), -INFINITE);
+        x.mark(0, 2, ENDLESS_ABOVE);
+        dueDouble("plain endless below and above", x.plain(0, 0, 3), 0.0);
+        x.mark(0, 1, NO_NUMBER);
         dueDouble("plain of no number", x.plain(0, 0, 2), 0.0);
     }
 
@@ -1022,6 +1066,11 @@ public final class PromisesTest {
         x.mark(0, 0, ENDLESS_BELOW);
         x.add(3, 0, 0, 1);
         due("order by the sums alone", x.order(3, 0), 1);
+        x.keeper(4, PAIRS);
+        x.pair(4, 0, 0, 1, 1);
+        due("order of nought and the least", x.order(2, 4), 2);
+        x.merge(2, 4);
+        due("order", x.order(2, 4), 1);
         due("order", x.order(-1, 0), OUTSIDE);
         due("order", x.order(5, 6), OUTSIDE);
         due("order", x.order(5, 0), NOTHING);
@@ -1151,6 +1200,8 @@ public final class PromisesTest {
         promise = "promise 15";
         promise15Error();
         promise15ErrorEndless();
+        promise = "promises 11 to 16";
+        promises11to16WholeRow();
         promise = "promise 16";
         promise16Plain();
     }
