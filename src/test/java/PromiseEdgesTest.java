@@ -1631,6 +1631,9 @@ public final class PromiseEdgesTest {
         dueDouble("plain of -0.0", x.plain(0, 0, 1), 0.0);
         dueDouble("plain of two -0.0", x.plain(0, 0, 2), 0.0);
         dueDouble("plain of 5.0, -5.0", x.plain(0, 2, 2), 0.0);
+        dueDouble("plain of -0.0 and 5.0", x.plain(0, 1, 2), 5.0);
+        fill(x, 0, FLOATS, 7.0, -0.0);
+        dueDouble("plain of 7.0 and -0.0", x.plain(0, 0, 2), 7.0);
     }
 
     @Says("16: (longs as doubles) (each KIND, all the 40 places)")
@@ -1661,6 +1664,9 @@ public final class PromiseEdgesTest {
         dueDouble("plain of ENDLESS above", x.plain(0, 0, 4), ENDLESS);
         fill(x, 0, DOUBLES, -ENDLESS, 1.0, -ENDLESS, MOST);
         dueDouble("plain of ENDLESS below", x.plain(0, 0, 4), -ENDLESS);
+        fill(x, 0, DOUBLES, MOST, -ENDLESS, -MOST, ENDLESS);
+        dueDouble("plain of the greatest and ENDLESS below", x.plain(0, 0, 2), -ENDLESS);
+        dueDouble("plain of the greatest below 0 and ENDLESS above", x.plain(0, 2, 2), ENDLESS);
     }
 
     @Says("16: 0.0 where it is NO NUMBER")
@@ -2009,6 +2015,11 @@ public final class PromiseEdgesTest {
         lengths(x, 0, 5.0, 5.0);
         x = pairs(5.0, 5.0, LEAST, LEAST);
         lengths(x, 0, 5.0, next);
+        for (int e = -48; e >= -1000; e -= e > -110 ? 1 : 89) {
+            x = pairs(5.0, 5.0, Math.scalb(1.0, e), 1.0);
+            lengths(x, 0, 5.0, next);
+            lengths(pairs(5.0, 5.0, Math.scalb(-1.0, e), 1.0), 0, Math.nextDown(5.0), 5.0);
+        }
         x = pairs(5.0, 5.0, -LEAST, LEAST);
         lengths(x, 0, Math.nextDown(5.0), 5.0);
         x = pairs(next, next);
@@ -2396,6 +2407,25 @@ public final class PromiseEdgesTest {
         due("undo of keeper", x.undo(), 4);
         due("sort", x.sort(4), NOTHING);
         due("count(1)", x.count(1), 0);
+    }
+
+    @Says("26: The latest change that is kept is taken back: its KEEPER (of merge the one to which the other one came)")
+    private static void undoOfMerge() {
+        LongSums x = withRow(DOUBLES, 2.0, ENDLESS);
+        x.keeper(0, SUMS);
+        x.keeper(1, SUMS);
+        x.add(0, 0, 0, 1);
+        x.add(1, 0, 0, 2);
+        x.merge(0, 1);
+        due("undo of merge", x.undo(), 0);
+        dueDouble("tell(0, 0, false)", x.tell(0, 0, false), 2.0);
+        seenIs(x, 0, 0, 0, 0);
+        seenIs(x, 1, 0, 1, 0);
+        x.merge(1, 0);
+        due("high", x.high(1), 2);
+        due("undo of merge", x.undo(), 1);
+        due("high", x.high(1), 1);
+        dueDouble("tell(0, 0, false)", x.tell(0, 0, false), 2.0);
     }
 
     @Says("26: NONE: none is kept")

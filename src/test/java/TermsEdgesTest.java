@@ -556,29 +556,48 @@ public final class TermsEdgesTest {
         due("sign(0)", x.sign(0), 0);
     }
 
-    @Says("of any size that can come")
-    private static void greatestOfAllSums() {
+    // The greatest product of all, 40 times ADDED (or TAKEN), then doubled as often as an object's calls allow.
+    private static LongSums grown(int many) {
         LongSums x = new LongSums();
         x.row(0, DOUBLES, 40);
         x.mark(0, 0, 4);
-        for (int many = 1; many < 40; many += Math.min(many, 40 - many)) {
-            x.copy(0, 0, 0, many, Math.min(many, 40 - many));
+        for (int had = 1; had < 40; had += Math.min(had, 40 - had)) {
+            x.copy(0, 0, 0, had, Math.min(had, 40 - had));
         }
         x.keeper(0, SQUARES);
-        x.keeper(1, SQUARES);
-        due("add", x.add(0, 0, 0, 40), 40);
-        due("add", x.add(1, 0, 0, -40), 40);
+        due("add", x.add(0, 0, 0, many), 40);
         due("high(0)", x.high(0), 2053);
-        for (int i = 0; i < 240; i++) {
+        for (int i = 0; i < 488; i++) {
             x.merge(0, 0);
-            x.merge(1, 1);
         }
-        due("high(0)", x.high(0), 2293);
-        due("high(1)", x.high(1), 2293);
+        return x;
+    }
+
+    @Says("of any size that can come (above 0)")
+    private static void greatestOfAllSums() {
+        LongSums x = grown(40);
+        due("high(0)", x.high(0), 2541);
         due("sign(0)", x.sign(0), 1);
-        due("sign(1)", x.sign(1), 2);
-        due("merge", x.merge(1, 0), 0);
-        due("sign(1)", x.sign(1), 0);
+        due("bit(0, 2200)", x.bit(0, 2200), 0);
+        dueDouble("mean(0, 1000000, 0)", x.mean(0, 1000000, 0), ENDLESS);
+        dueDouble("length(0, false)", x.length(0, false), MOST);
+        due("merge(0, 0)", x.merge(0, 0), 0);
+        due("high(0)", x.high(0), 2542);
+        due("undo", x.undo(), 0);
+        due("add", x.add(0, 0, 0, 40), 40);
+        due("bit(0, 2047)", x.bit(0, 2047), 1);
+        due("high(0)", x.high(0), 2541);
+    }
+
+    @Says("of any size that can come (below 0)")
+    private static void greatestOfAllSumsBelowNought() {
+        LongSums x = grown(-40);
+        due("high(0)", x.high(0), 2541);
+        due("sign(0)", x.sign(0), 2);
+        tells(x, 0, true, -ENDLESS, -MOST_FLOAT, -MOST_FLOAT, -ENDLESS);
+        due("merge(0, 0)", x.merge(0, 0), 0);
+        due("sign(0)", x.sign(0), 2);
+        due("high(0)", x.high(0), 2542);
     }
 
     // Keeper 0 has SEEN so many of one (what: of 0 NO NUMBER, 1 ENDLESS above, 2 below), row 0 has one of it.
@@ -875,6 +894,14 @@ public final class TermsEdgesTest {
         x = sums(1.0, 0x1p-53, -LEAST);
         dueDouble("tell below half", x.tell(0, 0, false), 1.0);
         dueDouble("tell below 0, below half", x.tell(1, 0, false), -1.0);
+        x = sums(1.0, 0x1p-53, 0x1p-54);
+        tells(x, 0, false, next, 1.0, next, 1.0);
+        x = sums(1.0, 0x1p-54);
+        tells(x, 0, false, 1.0, 1.0, next, 1.0);
+        x = sums(1.0, 0x1p-24, 0x1p-25);
+        tells(x, 0, true, 1.0 + 0x1p-23, 1.0, 1.0 + 0x1p-23, 1.0);
+        x = sums(1.0, 0x1p-25);
+        tells(x, 0, true, 1.0, 1.0, 1.0 + 0x1p-23, 1.0);
         x = sums(1.0, 0x1p-24, LEAST);
         dueDouble("tell to a float above half", x.tell(0, 0, true), 1.0 + 0x1p-23);
         dueDouble("tell to a float below 0, above half", x.tell(1, 0, true), -1.0 - 0x1p-23);
