@@ -2086,6 +2086,9 @@ public final class PromiseEdgesTest {
     private static void lengthOfEndless() {
         LongSums x = pairs(ENDLESS, 2.0, 3.0, 3.0);
         lengths(x, 0, ENDLESS, ENDLESS);
+        // Of two that fit here the one that the document tells first.
+        x = pairs(ENDLESS, 2.0, -3.0, 3.0);
+        lengths(x, 0, ENDLESS, ENDLESS);
         x.keeper(5, SQUARES);
         set(x, 0, 0, -ENDLESS);
         x.add(5, 0, 0, 1);
